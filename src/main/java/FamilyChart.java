@@ -1106,10 +1106,12 @@ public final class FamilyChart {
         int swapWhereBetter() {
             int swaps = 0;
             for (int row = 0; row < family.rowCount; row++) {
+                int fewest = countCrossingsAround(row);
                 for (int place = 0; place + 1 < boxCountOf(row); place++) {
-                    int before = countCrossingsAround(row);
                     exchange(row, place, place + 1);
-                    if (countCrossingsAround(row) < before) {
+                    int crossings = countCrossingsAround(row);
+                    if (crossings < fewest) {
+                        fewest = crossings;
                         swaps++;
                     } else {
                         exchange(row, place, place + 1);
@@ -1224,7 +1226,7 @@ public final class FamilyChart {
         private final Rows rows;
         private final Columns columns;
         private final int[] line = new int[MOST_COLUMNS];
-        private int lineLength;
+        private int lineLength = MOST_COLUMNS;
         final int[] text = new int[WIDEST_STRIP];
         int textLength;
 
@@ -1235,8 +1237,7 @@ public final class FamilyChart {
         }
 
         void printLine(int number) {
-            fill(line, ' ');
-            lineLength = 0;
+            clearLine();
             int row = number / LINES_OF_ROW;
             switch (number % LINES_OF_ROW) {
                 case 0:
@@ -1249,6 +1250,14 @@ public final class FamilyChart {
                     printPersonMarks(row + 1);
                     break;
             }
+        }
+
+        // Behind the length of the line that was printed before, all cells are blank already.
+        private void clearLine() {
+            for (int column = 0; column < lineLength; column++) {
+                put(line, column, ' ');
+            }
+            lineLength = 0;
         }
 
         private void printByte(int column, int code) {
@@ -1573,10 +1582,16 @@ public final class FamilyChart {
             if (!input.isFine()) {
                 return HIDDEN - input.errorCode;
             }
-            if (many) {
-                return Integer.bitCount(holding);
+            return many ? Integer.bitCount(holding) : firstOf(holding);
+        }
+
+        private static int firstOf(int mask) {
+            for (int person = 0; person < MOST_PERSONS; person++) {
+                if ((mask & bit(person)) != 0) {
+                    return person;
+                }
             }
-            return holding == 0 ? NONE : Integer.numberOfTrailingZeros(holding);
+            return NONE;
         }
 
         private int readTest(int open) {

@@ -94,6 +94,9 @@ public final class PromisesTest {
         due("12 unions", Checks.load(chart, persons(13) + unions(12)), 13);
         due("12 unions are there", chart.count(1), 12);
         due("8 letters", Checks.load(chart, "person abcdefgh 1;"), 1);
+        due("names of one beginning", Checks.load(chart, "person az 1;person z 1;person aza 1;union z aza 1 az;"), 3);
+        due("partner z", chart.union(0, 0), 1);
+        due("partner aza", chart.union(0, 1), 2);
         chart.feed(0, 0, 0, 0, 0);
         Checks.badArgument("load -1", () -> chart.load(-1));
         Checks.badArgument("load 21", () -> chart.load(21));
@@ -467,6 +470,23 @@ public final class PromisesTest {
         Checks.noElement("format strip", () -> chart.format(0, MIN, 10));
     }
 
+    // Each call on an object of its own: none may need another one to have told the columns.
+    private static void columnsAtOnce() {
+        due("width at once", Checks.chartOf(FAMILY).width(), 11);
+        due("strips at once", Checks.chartOf(FAMILY).strips(10), 2);
+        due("cutBoxes at once", Checks.chartOf(FAMILY).cutBoxes(10), 1);
+        due("format at once", Checks.chartOf(FAMILY).format(6, 0, 10), 8);
+        due("box at once", Checks.chartOf(FAMILY).box(2, 0, 2), 4);
+        due("union at once", Checks.chartOf(FAMILY).union(1, 6), 6);
+        FamilyChart chart = Checks.chartOf("person abcdefgh 1;person b 1;person c 1;union b c 1;");
+        due("a mark ahead of swap", chart.format(1, 0, 50), 15);
+        chart.swap(0, 0, 2);
+        due("a mark after swap", chart.format(1, 0, 50), 4);
+        due("cut after swap", chart.cutBoxes(10), 1);
+        chart.undo();
+        due("cut after undo", chart.cutBoxes(10), 0);
+    }
+
     private static void shares() {
         FamilyChart chart = Checks.chartOf(FAMILY);
         due("no references", Float.floatToIntBits(chart.repeated()), Float.floatToIntBits(0f));
@@ -575,14 +595,21 @@ public final class PromisesTest {
             Checks.badArgument("improve " + wrong, () -> chart.improve(wrong));
         }
         due("not recorded", chart.undoCount(), 3);
-        // a and f, b and e, c and d lie crosswise: one round is not enough.
-        String three = persons(6) + "union a d 1;union b e 1;union c f 1;";
-        FamilyChart once = Checks.chartOf(three);
-        due("three crossings", once.crossings(), 3);
-        int first = once.improve(1);
-        due("fewer after a round", once.crossings() < 3 ? 1 : 0, 1);
-        FamilyChart often = Checks.chartOf(three);
-        due("more rounds swap no less", often.improve(5) >= first ? 1 : 0, 1);
+        // The first round can only put c ahead of b, the second one then c ahead of a.
+        String two = persons(5) + "union a d 1;union b d 1;union c e 1;";
+        FamilyChart once = Checks.chartOf(two);
+        due("crossings", once.crossings(), 2);
+        due("one round", once.improve(1), 1);
+        due("crossings after a round", once.crossings(), 1);
+        FamilyChart twice = Checks.chartOf(two);
+        due("two rounds", twice.improve(2), 2);
+        due("crossings after two rounds", twice.crossings(), 0);
+        due("c first", twice.place(2), 0);
+        FamilyChart often = Checks.chartOf(two);
+        due("five rounds", often.improve(5), 2);
+        due("one operation", often.undoCount(), 1);
+        due("undo", often.undo(), 0);
+        due("crossings again", often.crossings(), 2);
     }
 
     private static void arrange() {
@@ -672,6 +699,16 @@ public final class PromisesTest {
         chart.plain();
         due("restore again", chart.restoreSnapshot() ? 1 : 0, 1);
         due("order again", chart.place(0), 1);
+        chart.undo();
+        chart.marry(0, 4, 1);
+        chart.saveSnapshot();
+        chart.undo();
+        due("another third union", chart.marry(3, 1, 9), 2);
+        due("restore the third union", chart.restoreSnapshot() ? 1 : 0, 1);
+        due("its first partner", chart.union(2, 0), 0);
+        due("its second partner", chart.union(2, 1), 4);
+        due("its year", chart.union(2, 2), 1);
+        chart.swap(0, 0, 1);
         chart.plain();
         chart.saveSnapshot();
         chart.swap(0, 0, 1);
@@ -794,6 +831,7 @@ public final class PromisesTest {
         crossings();
         printing();
         strips();
+        columnsAtOnce();
         shares();
         marry();
         adoptAndRelease();
