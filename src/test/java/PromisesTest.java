@@ -1,43 +1,10 @@
 /** The promises one by one, with answers worked out by hand: ordinary inputs, edges, wrong inputs. */
 public final class PromisesTest {
-    // Two siblings marry: al and bo, their children cy and di, and ed, the child of these.
-    private static final String FAMILY = "person al 1900;person bo 1901;person cy 1930;person di 1932;"
-            + "person ed 1960;union al bo 1920 cy di;union cy di 1955 ed;";
-    // x and y stand the other way round than their parents, and r, without parents, marries y.
-    private static final String CROSSED = "person a 1;person b 2;person c 3;person d 4;person r 5;person x 6;"
-            + "person y 7;union c d 10 x;union a b 11 y;union r y 12;";
     private static final int MIN = Integer.MIN_VALUE;
     private static final int MAX = Integer.MAX_VALUE;
 
     private static void due(String what, long got, long want) {
         Checks.due(what, got, want);
-    }
-
-    private static String persons(int count) {
-        StringBuilder text = new StringBuilder();
-        for (int i = 0; i < count; i++) {
-            text.append("person ").append((char) ('a' + i)).append(" 1;");
-        }
-        return text.toString();
-    }
-
-    /** Unions of a with the 12 persons behind it. */
-    private static String unions(int count) {
-        StringBuilder text = new StringBuilder();
-        for (int i = 0; i < count; i++) {
-            text.append("union a ").append((char) ('b' + i)).append(" 1;");
-        }
-        return text.toString();
-    }
-
-    /** Each one marries the own parent of later birth: 14 persons in 13 rows. */
-    private static String ladder() {
-        StringBuilder text = new StringBuilder(persons(14));
-        for (int i = 0; i < 12; i++) {
-            text.append("union ").append((char) ('a' + i)).append(' ').append((char) ('b' + i)).append(" 1 ")
-                    .append((char) ('c' + i)).append(';');
-        }
-        return text.toString();
     }
 
     private static void newObject() {
@@ -82,7 +49,7 @@ public final class PromisesTest {
 
     private static void load() {
         FamilyChart chart = new FamilyChart();
-        due("load", Checks.load(chart, FAMILY), 5);
+        due("load", Checks.load(chart, Texts.FAMILY), 5);
         due("load without blanks", Checks.load(chart, "person\nal1900;person bo0000002100;union al bo0;"), 2);
         due("year of leading zeros", chart.person(1, 0), 2100);
         due("keywords are names", Checks.load(chart, "person union 1;person person 2;union person union 3;"), 2);
@@ -90,8 +57,8 @@ public final class PromisesTest {
         due("load 0", chart.load(0), 0);
         due("rows of nobody", chart.count(2), 0);
         due("load of blanks", Checks.load(chart, " \n "), 0);
-        due("16 persons", Checks.load(chart, persons(16)), 16);
-        due("12 unions", Checks.load(chart, persons(13) + unions(12)), 13);
+        due("16 persons", Checks.load(chart, Texts.persons(16)), 16);
+        due("12 unions", Checks.load(chart, Texts.persons(13) + Texts.unions(12)), 13);
         due("12 unions are there", chart.count(1), 12);
         due("8 letters", Checks.load(chart, "person abcdefgh 1;"), 1);
         due("names of one beginning", Checks.load(chart, "person az 1;person z 1;person aza 1;union z aza 1 az;"), 3);
@@ -107,7 +74,7 @@ public final class PromisesTest {
     }
 
     private static void loadReplaces() {
-        FamilyChart chart = Checks.chartOf(FAMILY);
+        FamilyChart chart = Checks.chartOf(Texts.FAMILY);
         chart.saveSnapshot();
         chart.swap(0, 0, 1);
         due("load with an error", Checks.load(chart, "person al"), -11);
@@ -116,7 +83,7 @@ public final class PromisesTest {
         due("persons are kept after an error", chart.count(0), 5);
         due("snapshot is kept after an error", chart.restoreSnapshot() ? 1 : 0, 1);
         chart.swap(0, 0, 1);
-        due("load", Checks.load(chart, FAMILY), 5);
+        due("load", Checks.load(chart, Texts.FAMILY), 5);
         due("undo is discarded", chart.undoCount(), 0);
         due("snapshot is discarded", chart.restoreSnapshot() ? 1 : 0, 0);
         due("plain order", chart.place(0), 0);
@@ -144,8 +111,8 @@ public final class PromisesTest {
         textError("person al 2101;", 2, 10);
         textError("person al 99999999999999999999;", 2, 10);
         textError("person al 4294967296;", 2, 10);
-        textError(persons(16) + "person", 3, 11 * 16);
-        textError(persons(14) + unions(12) + "union", 3, 11 * 14 + 12 * 12);
+        textError(Texts.persons(16) + "person", 3, 11 * 16);
+        textError(Texts.persons(14) + Texts.unions(12) + "union", 3, 11 * 14 + 12 * 12);
         textError("person al 1;person al 2;", 4, 19);
         String two = "person al 1;person bo 1;";
         textError(two + "union", 1, 29);
@@ -187,7 +154,7 @@ public final class PromisesTest {
     }
 
     private static void count() {
-        FamilyChart chart = Checks.chartOf(CROSSED);
+        FamilyChart chart = Checks.chartOf(Texts.CROSSED);
         int[] want = {7, 3, 2, 8, 1, 5, 3};
         for (int what = 0; what < want.length; what++) {
             due("count " + what, chart.count(what), want[what]);
@@ -195,12 +162,12 @@ public final class PromisesTest {
         for (int what : new int[] {-1, 7, MIN, MAX}) {
             due("count " + what, chart.count(what), -1);
         }
-        due("rows of a ladder", Checks.chartOf(ladder()).count(2), 13);
-        due("references of a ladder", Checks.chartOf(ladder()).count(4), 11);
+        due("rows of a ladder", Checks.chartOf(Texts.ladder()).count(2), 13);
+        due("references of a ladder", Checks.chartOf(Texts.ladder()).count(4), 11);
     }
 
     private static void person() {
-        FamilyChart chart = Checks.chartOf(FAMILY + "person otto 7;");
+        FamilyChart chart = Checks.chartOf(Texts.FAMILY + "person otto 7;");
         int[][] want = {{1900, 0, -1, 1, 2}, {1901, 0, -1, 1, 2}, {1930, 1, 0, 1, 2}, {1932, 1, 0, 1, 2},
                 {1960, 2, 1, 0, 2}, {7, 0, -1, 0, 4}};
         for (int person = 0; person < 6; person++) {
@@ -217,7 +184,7 @@ public final class PromisesTest {
     }
 
     private static void union() {
-        FamilyChart chart = Checks.chartOf(CROSSED);
+        FamilyChart chart = Checks.chartOf(Texts.CROSSED);
         // Row 1 begins with x, 11 - 1, below the middle of c and d; y and r follow.
         int[][] want = {{2, 3, 10, 0, 1, 5, 11}, {0, 1, 11, 0, 1, 1, 3}, {4, 6, 12, 1, 0, 3, 17}};
         for (int union = 0; union < 3; union++) {
@@ -236,7 +203,7 @@ public final class PromisesTest {
     }
 
     private static void lineage() {
-        FamilyChart chart = Checks.chartOf(FAMILY);
+        FamilyChart chart = Checks.chartOf(Texts.FAMILY);
         due("children 0", chart.children(0), 12);
         due("children 1", chart.children(1), 16);
         due("ancestors 4", chart.ancestors(4), 15);
@@ -252,12 +219,12 @@ public final class PromisesTest {
             Checks.noElement("ancestors " + wrong, () -> chart.ancestors(wrong));
             Checks.noElement("descendants " + wrong, () -> chart.descendants(wrong));
         }
-        due("ancestors on a ladder", Checks.chartOf(ladder()).ancestors(13), (1 << 13) - 1);
-        due("descendants on a ladder", Checks.chartOf(ladder()).descendants(0), (1 << 14) - 4);
+        due("ancestors on a ladder", Checks.chartOf(Texts.ladder()).ancestors(13), (1 << 13) - 1);
+        due("descendants on a ladder", Checks.chartOf(Texts.ladder()).descendants(0), (1 << 14) - 4);
     }
 
     private static void kinship() {
-        FamilyChart chart = Checks.chartOf(FAMILY);
+        FamilyChart chart = Checks.chartOf(Texts.FAMILY);
         due("with oneself", chart.kinship(0, 0), 1L << 39);
         due("siblings", chart.kinship(2, 3), 1L << 38);
         due("siblings", chart.kinship(3, 2), 1L << 38);
@@ -284,7 +251,7 @@ public final class PromisesTest {
     }
 
     private static void relations() {
-        FamilyChart chart = Checks.chartOf(FAMILY + "person otto 7;");
+        FamilyChart chart = Checks.chartOf(Texts.FAMILY + "person otto 7;");
         due("distance", chart.distance(4, 0), 2);
         due("distance of spouses", chart.distance(0, 1), 2);
         due("distance to oneself", chart.distance(3, 3), 0);
@@ -298,7 +265,7 @@ public final class PromisesTest {
         due("nearest with a parent", chart.nearestAncestor(3, 4), 3);
         due("nearest with oneself", chart.nearestAncestor(1, 1), 1);
         due("nearest of spouses", chart.nearestAncestor(0, 1), -1);
-        FamilyChart deep = Checks.chartOf(ladder());
+        FamilyChart deep = Checks.chartOf(Texts.ladder());
         due("linesTo on a ladder", deep.linesTo(13, 0), 144);
         due("distance on a ladder", deep.distance(13, 0), 7);
         due("nearest on a ladder", deep.nearestAncestor(13, 12), 12);
@@ -315,14 +282,14 @@ public final class PromisesTest {
     }
 
     private static void collapse() {
-        FamilyChart chart = Checks.chartOf(FAMILY);
+        FamilyChart chart = Checks.chartOf(Texts.FAMILY);
         due("collapse 1", chart.collapse(4, 1), 0);
         due("collapse 2", chart.collapse(4, 2), 2);
         due("collapse 3", chart.collapse(4, 3), 0);
         due("collapse 15", chart.collapse(4, 15), 0);
         due("collapse of a root", chart.collapse(0, 1), 0);
         // Six steps lead from n to the persons a to h in all, in 64 ways.
-        due("collapse on a ladder", Checks.chartOf(ladder()).collapse(13, 6), 64 - 7);
+        due("collapse on a ladder", Checks.chartOf(Texts.ladder()).collapse(13, 6), 64 - 7);
         for (int wrong : new int[] {0, 16, -1, MIN, MAX}) {
             Checks.badArgument("collapse by " + wrong, () -> chart.collapse(4, wrong));
             Checks.noElement("collapse, the person first", () -> chart.collapse(5, wrong));
@@ -331,7 +298,7 @@ public final class PromisesTest {
     }
 
     private static void boxes() {
-        FamilyChart chart = Checks.chartOf(CROSSED);
+        FamilyChart chart = Checks.chartOf(Texts.CROSSED);
         due("boxes 0", chart.boxes(0), 5);
         due("boxes 1", chart.boxes(1), 3);
         int[][] want = {{5, -1, 10, 3}, {6, -1, 14, 3}, {4, 2, 18, 3}};
@@ -390,7 +357,7 @@ public final class PromisesTest {
         FamilyChart nested = Checks.chartOf("person a 1;person b 1;person c 1;person d 1;union a d 5;union b c 6;"
                 + "union a b 7;union a c 8;");
         due("nested, and from one box", nested.crossings(), 0);
-        FamilyChart chart = Checks.chartOf(CROSSED);
+        FamilyChart chart = Checks.chartOf(Texts.CROSSED);
         due("in row 0", chart.crossingsOf(0, false), 0);
         due("below row 0", chart.crossingsOf(0, true), 1);
         due("in row 1", chart.crossingsOf(1, false), 0);
@@ -412,7 +379,7 @@ public final class PromisesTest {
     }
 
     private static void printing() {
-        FamilyChart chart = Checks.chartOf(FAMILY);
+        FamilyChart chart = Checks.chartOf(Texts.FAMILY);
         chart.marry(0, 4, 1);
         String[] want = {"[al] [bo]", "    a", "    a    a", "  [cy] [di]", "      b", "      b", "    [ed] (al)",
                 "        c", ""};
@@ -420,16 +387,16 @@ public final class PromisesTest {
             Checks.due("line " + line, Checks.printed(chart, line, 0, 200), want[line]);
         }
         due("width", chart.width(), 13);
-        FamilyChart marks = Checks.chartOf(persons(5) + "union a e 1;union b d 1;union b e 1;union a d 1;");
+        FamilyChart marks = Checks.chartOf(Texts.persons(5) + "union a e 1;union b d 1;union b e 1;union a d 1;");
         Checks.due("marks", Checks.printed(marks, 1, 0, 20), "       d abc");
-        FamilyChart order = Checks.chartOf(persons(5) + "union b e 1;union a e 1;union b d 1;");
+        FamilyChart order = Checks.chartOf(Texts.persons(5) + "union b e 1;union a e 1;union b d 1;");
         Checks.due("a mark passes two others", Checks.printed(order, 1, 0, 20), "         bca");
         FamilyChart wide = Checks.chartOf("person abcdefgh 1;person hgfedcba 1;person x 1;union x abcdefgh 1;");
         Checks.due("boxes", Checks.printed(wide, 0, 0, 50), "[abcdefgh] [hgfedcba] [x]");
     }
 
     private static void strips() {
-        FamilyChart chart = Checks.chartOf(FAMILY);
+        FamilyChart chart = Checks.chartOf(Texts.FAMILY);
         due("width", chart.width(), 11);
         due("strips of 10", chart.strips(10), 2);
         due("strips of 11", chart.strips(11), 1);
@@ -442,7 +409,7 @@ public final class PromisesTest {
         due("its text", chart.formattedByte(0), -1);
         due("a far strip", chart.format(3, MAX, 200), 0);
         due("a strip that would wrap around", chart.format(3, 1 << 29, 16), 0);
-        FamilyChart gap = Checks.chartOf(persons(8) + "union a b 1;union g h 1;");
+        FamilyChart gap = Checks.chartOf(Texts.persons(8) + "union a b 1;union g h 1;");
         Checks.due("blanks ahead of a later byte", Checks.printed(gap, 1, 0, 10), "   a      ");
         due("a strip of blanks alone", gap.format(1, 1, 10), 10);
         Checks.due("the last strip", Checks.printed(gap, 1, 2, 10), "       b");
@@ -472,12 +439,12 @@ public final class PromisesTest {
 
     // Each call on an object of its own: none may need another one to have told the columns.
     private static void columnsAtOnce() {
-        due("width at once", Checks.chartOf(FAMILY).width(), 11);
-        due("strips at once", Checks.chartOf(FAMILY).strips(10), 2);
-        due("cutBoxes at once", Checks.chartOf(FAMILY).cutBoxes(10), 1);
-        due("format at once", Checks.chartOf(FAMILY).format(6, 0, 10), 8);
-        due("box at once", Checks.chartOf(FAMILY).box(2, 0, 2), 4);
-        due("union at once", Checks.chartOf(FAMILY).union(1, 6), 6);
+        due("width at once", Checks.chartOf(Texts.FAMILY).width(), 11);
+        due("strips at once", Checks.chartOf(Texts.FAMILY).strips(10), 2);
+        due("cutBoxes at once", Checks.chartOf(Texts.FAMILY).cutBoxes(10), 1);
+        due("format at once", Checks.chartOf(Texts.FAMILY).format(6, 0, 10), 8);
+        due("box at once", Checks.chartOf(Texts.FAMILY).box(2, 0, 2), 4);
+        due("union at once", Checks.chartOf(Texts.FAMILY).union(1, 6), 6);
         FamilyChart chart = Checks.chartOf("person abcdefgh 1;person b 1;person c 1;union b c 1;");
         due("a mark ahead of swap", chart.format(1, 0, 50), 15);
         chart.swap(0, 0, 2);
@@ -488,7 +455,7 @@ public final class PromisesTest {
     }
 
     private static void shares() {
-        FamilyChart chart = Checks.chartOf(FAMILY);
+        FamilyChart chart = Checks.chartOf(Texts.FAMILY);
         due("no references", Float.floatToIntBits(chart.repeated()), Float.floatToIntBits(0f));
         due("inbreeding", Double.doubleToLongBits(chart.inbreeding()), Double.doubleToLongBits(0.25));
         chart.marry(0, 4, 1);
@@ -499,7 +466,7 @@ public final class PromisesTest {
     }
 
     private static void marry() {
-        FamilyChart chart = Checks.chartOf(FAMILY);
+        FamilyChart chart = Checks.chartOf(Texts.FAMILY);
         chart.swap(0, 0, 1);
         due("marry", chart.marry(0, 4, 2100), 2);
         due("first partner", chart.union(2, 0), 0);
@@ -520,18 +487,18 @@ public final class PromisesTest {
             Checks.noElement("marry of " + wrong, () -> chart.marry(wrong, 0, 1));
             Checks.noElement("marry with " + wrong, () -> chart.marry(0, wrong, 1));
         }
-        FamilyChart full = Checks.chartOf(persons(14) + unions(12));
+        FamilyChart full = Checks.chartOf(Texts.persons(14) + Texts.unions(12));
         due("13th union", full.marry(0, 13, 1), -3);
         due("13th union of a pair", full.marry(1, 0, 1), -2);
         due("13th union with oneself", full.marry(1, 1, 1), -2);
         due("unions", full.count(1), 12);
         due("not recorded", full.undoCount(), 0);
-        FamilyChart last = Checks.chartOf(persons(14) + unions(11));
+        FamilyChart last = Checks.chartOf(Texts.persons(14) + Texts.unions(11));
         due("12th union", last.marry(0, 13, 0), 11);
     }
 
     private static void adoptAndRelease() {
-        FamilyChart chart = Checks.chartOf(FAMILY + "person otto 7;");
+        FamilyChart chart = Checks.chartOf(Texts.FAMILY + "person otto 7;");
         chart.swap(0, 0, 1);
         due("adopt", chart.adopt(1, 5), 2);
         due("parents", chart.person(5, 2), 1);
@@ -565,7 +532,7 @@ public final class PromisesTest {
     }
 
     private static void swap() {
-        FamilyChart chart = Checks.chartOf(CROSSED);
+        FamilyChart chart = Checks.chartOf(Texts.CROSSED);
         due("swap", chart.swap(1, 0, 1), 0);
         due("place", chart.place(6), 0);
         due("swap with itself", chart.swap(1, 2, 2), 0);
@@ -583,7 +550,7 @@ public final class PromisesTest {
     }
 
     private static void improve() {
-        FamilyChart chart = Checks.chartOf(CROSSED);
+        FamilyChart chart = Checks.chartOf(Texts.CROSSED);
         due("improve by none", chart.improve(0), 0);
         due("crossings", chart.crossings(), 1);
         due("improve", chart.improve(5), 1);
@@ -596,7 +563,7 @@ public final class PromisesTest {
         }
         due("not recorded", chart.undoCount(), 3);
         // The first round can only put c ahead of b, the second one then c ahead of a.
-        String two = persons(5) + "union a d 1;union b d 1;union c e 1;";
+        String two = Texts.persons(5) + "union a d 1;union b d 1;union c e 1;";
         FamilyChart once = Checks.chartOf(two);
         due("crossings", once.crossings(), 2);
         due("one round", once.improve(1), 1);
@@ -613,7 +580,7 @@ public final class PromisesTest {
     }
 
     private static void arrange() {
-        FamilyChart chart = Checks.chartOf(CROSSED);
+        FamilyChart chart = Checks.chartOf(Texts.CROSSED);
         due("arrange", chart.arrange(), 0);
         due("y first", chart.place(6), 0);
         due("then the reference of r", chart.box(1, 1, 1), 2);
@@ -621,7 +588,7 @@ public final class PromisesTest {
         due("row 0 as it was", chart.box(0, 0, 0), 0);
         due("arrange again", chart.arrange(), 0);
         due("both recorded", chart.undoCount(), 2);
-        FamilyChart stable = Checks.chartOf(persons(5) + "union a b 1 c d e;");
+        FamilyChart stable = Checks.chartOf(Texts.persons(5) + "union a b 1 c d e;");
         stable.swap(1, 0, 2);
         due("arrange equal keys", stable.arrange(), 0);
         due("they keep their order", stable.place(4), 0);
@@ -635,7 +602,7 @@ public final class PromisesTest {
     }
 
     private static void plain() {
-        FamilyChart chart = Checks.chartOf(CROSSED);
+        FamilyChart chart = Checks.chartOf(Texts.CROSSED);
         chart.arrange();
         chart.swap(0, 0, 4);
         chart.plain();
@@ -646,7 +613,7 @@ public final class PromisesTest {
     }
 
     private static void undo() {
-        FamilyChart chart = Checks.chartOf(FAMILY + "person otto 7;");
+        FamilyChart chart = Checks.chartOf(Texts.FAMILY + "person otto 7;");
         chart.swap(0, 0, 2);
         chart.marry(5, 4, 3);
         chart.adopt(0, 5);
@@ -682,7 +649,7 @@ public final class PromisesTest {
     }
 
     private static void snapshots() {
-        FamilyChart chart = Checks.chartOf(FAMILY);
+        FamilyChart chart = Checks.chartOf(Texts.FAMILY);
         due("no snapshot", chart.restoreSnapshot() ? 1 : 0, 0);
         chart.swap(0, 0, 1);
         due("undo is kept without a snapshot", chart.undoCount(), 1);
@@ -725,7 +692,7 @@ public final class PromisesTest {
     }
 
     private static void query() {
-        FamilyChart chart = Checks.chartOf(FAMILY);
+        FamilyChart chart = Checks.chartOf(Texts.FAMILY);
         asked(chart, "many generation=0", 2);
         asked(chart, "many year<1932", 3);
         asked(chart, "many year>1932", 1);
@@ -775,7 +742,7 @@ public final class PromisesTest {
     }
 
     private static void queryError(String text, int code, int position) {
-        FamilyChart chart = Checks.chartOf(FAMILY);
+        FamilyChart chart = Checks.chartOf(Texts.FAMILY);
         due(text, Checks.query(chart, text), FamilyChart.HIDDEN - code);
         due("error position of " + text, chart.errorPosition(), position);
     }
