@@ -158,7 +158,45 @@ public final class OperationsEdgesTest {
         Scene crossed = Scene.of(Texts.CROSSED);
         restores("improve of crossed lines", crossed, c -> c.improve(2));
         restores("arrange of crossed lines", crossed, FamilyChart::arrange);
+        String three = Texts.persons(6) + "union a c 1 e;";
+        restores("a union that crosses another one", Scene.of(three), c -> c.marry(1, 3, 1));
+        restores("a child that crosses another one", Scene.of(Texts.persons(6) + "union c d 1 e;union a b 1;"),
+                c -> c.adopt(1, 5));
         restores("the twelfth union", Scene.of(Texts.persons(13) + Texts.unions(11)), c -> c.marry(0, 12, 7));
+    }
+
+    private static void sameDrawing(String what, Scene scene, String text) {
+        Checks.due(what, Scene.of(text).portrait().firstChangeOfDrawing(scene.portrait()), "");
+        Checks.due(what + ", improved", Scene.of(text).then(c -> c.improve(5)).portrait()
+                .firstChangeOfDrawing(scene.then(c -> c.improve(5)).portrait()), "");
+        Checks.due(what + ", arranged", Scene.of(text).then(FamilyChart::arrange).portrait()
+                .firstChangeOfDrawing(scene.then(FamilyChart::arrange).portrait()), "");
+    }
+
+    // What an operation leaves is what a text with the same persons and unions tells, also where rows have gone.
+    private static void asIfTold() {
+        String four = Texts.persons(6);
+        sameDrawing("marry", Scene.of(four + "union a c 1;").then(c -> c.marry(1, 3, 1)),
+                four + "union a c 1;union b d 1;");
+        sameDrawing("marry and undo", Scene.of(four + "union a c 1;").then(c -> c.marry(1, 3, 1))
+                .then(FamilyChart::undo), four + "union a c 1;");
+        sameDrawing("adopt", Scene.of(four + "union a c 1;union b d 1 e;").then(c -> c.adopt(0, 5)),
+                four + "union a c 1 f;union b d 1 e;");
+        sameDrawing("adopt and undo", Scene.of(four + "union a c 1;union b d 1 e;").then(c -> c.adopt(0, 5))
+                .then(FamilyChart::undo), four + "union a c 1;union b d 1 e;");
+        sameDrawing("release", Scene.of(four + "union a c 1 f;union b d 1 e;").then(c -> c.release(5)),
+                four + "union a c 1;union b d 1 e;");
+        for (int i = 2; i < 14; i++) {
+            int child = i;
+            String less = Texts.ladder().replace(" 1 " + Texts.letter(i) + ";", " 1;");
+            sameDrawing("release on the ladder of " + i, Scene.of(Texts.ladder()).then(c -> c.release(child)), less);
+            sameDrawing("release and adopt on the ladder of " + i, Scene.of(Texts.ladder())
+                    .then(c -> c.release(child)).then(c -> c.adopt(child - 2, child)), Texts.ladder());
+            sameDrawing("adopt on the ladder of " + i, Scene.of(less).then(c -> c.adopt(child - 2, child)),
+                    Texts.ladder());
+            sameDrawing("adopt and undo on the ladder of " + i, Scene.of(less).then(c -> c.adopt(child - 2, child))
+                    .then(FamilyChart::undo), less);
+        }
     }
 
     // A restored row count goes with a restored order, though marry and release lay the rows anew.
@@ -184,6 +222,8 @@ public final class OperationsEdgesTest {
         String everything = "Undoing restores everything that the operation changed.";
         Checks.sentence(everything, OperationsEdgesTest::everythingChanged);
         Checks.sentence(everything, OperationsEdgesTest::severalAtOnce);
+        Checks.sentence("Each successful call of marry, adopt or release brings the plain order of all rows back.",
+                OperationsEdgesTest::asIfTold);
         Checks.end("OperationsEdgesTest");
     }
 }

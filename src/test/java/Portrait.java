@@ -5,6 +5,9 @@ import java.util.Map;
 final class Portrait {
     private static final int PERSONS = 16;
     private static final int UNIONS = 12;
+    private static final String FAMILY = "the persons and unions";
+    private static final String ROWS = "the rows";
+    private static final String LINES = "the lines";
     private static final String BUFFER = "the buffer";
     private static final String ERROR_POSITION = "the error position";
 
@@ -13,12 +16,12 @@ final class Portrait {
 
     Portrait(Scene scene) {
         this.scene = scene;
-        parts.put("the persons and unions", family(scene.chart()));
-        parts.put("the rows", rows(scene.chart()));
+        parts.put(FAMILY, family(scene.chart()));
+        parts.put(ROWS, rows(scene.chart()));
         parts.put("the text of format", text(scene.chart()));
         parts.put(ERROR_POSITION, Integer.toString(scene.chart().errorPosition()));
         parts.put(BUFFER, buffer());
-        parts.put("the lines", lines());
+        parts.put(LINES, lines());
         parts.put("what can be undone", undone());
         parts.put("the snapshot", snapshot(scene.chart()));
     }
@@ -38,6 +41,16 @@ final class Portrait {
         for (String part : parts.keySet()) {
             boolean read = part.equals(BUFFER) || part.equals(ERROR_POSITION);
             if (!read && !parts.get(part).equals(other.parts.get(part))) {
+                return part;
+            }
+        }
+        return "";
+    }
+
+    /** The same, for what persons and unions stand and how they are drawn: charts of another past may be compared. */
+    String firstChangeOfDrawing(Portrait other) {
+        for (String part : new String[] {FAMILY, ROWS, LINES}) {
+            if (!parts.get(part).equals(other.parts.get(part))) {
                 return part;
             }
         }

@@ -127,6 +127,31 @@ public final class ReadingEdgesTest {
         due("the buffer", none.feed(0, 0, 0, 0, 0), 20);
     }
 
+    private static long lookedAt(FamilyChart chart) {
+        chart.width();
+        chart.inbreeding();
+        return chart.improve(1) + chart.cutBoxes(10);
+    }
+
+    // Whatever stood before, greater or smaller, a text makes the same chart, and so do the operations behind it.
+    private static void nothingIsLeft() {
+        String[] texts = {"", Texts.persons(1), Texts.persons(16) + Texts.unions(12), Texts.FAMILY, Texts.CROSSED,
+                Texts.ladder(), Texts.ladderUpwards(), Texts.zigzag(), Texts.widest(), Texts.line(),
+                Texts.persons(4) + "union a c 1;union b d 1;", Texts.persons(4) + "union a c 1;"};
+        for (String text : texts) {
+            Portrait loaded = Scene.of(text).portrait();
+            Portrait improved = Scene.of(text).then(c -> c.improve(2)).portrait();
+            Portrait arranged = Scene.of(text).then(FamilyChart::arrange).portrait();
+            for (String before : texts) {
+                String what = "'" + text + "' behind '" + before + "'";
+                Scene again = Scene.of(before).then(ReadingEdgesTest::lookedAt).load(text);
+                Checks.due("load of " + what, loaded.firstChange(again.portrait()), "");
+                Checks.due("improve of " + what, improved.firstChange(again.then(c -> c.improve(2)).portrait()), "");
+                Checks.due("arrange of " + what, arranged.firstChange(again.then(FamilyChart::arrange).portrait()), "");
+            }
+        }
+    }
+
     private static void negativeCodes() {
         Checks.refusedText("union", RICH, 1, 5);
         Checks.refusedText("person a 2101;", RICH, 2, 9);
@@ -211,9 +236,11 @@ public final class ReadingEdgesTest {
                 + "first.", ReadingEdgesTest::fourBytesEach);
         Checks.promise(2, "Returns the number of bytes in the buffer; NONE if it would exceed 800, and then nothing is "
                 + "appended.", ReadingEdgesTest::roomFor800);
-        Checks.promise(3, "Reads the first bytes of the buffer as a text, which replaces everything; all rows have the "
+        String reads = "Reads the first bytes of the buffer as a text, which replaces everything; all rows have the "
                 + "plain order, and the undo history and the snapshot are discarded. The buffer is empty afterwards, "
-                + "also after an error.", ReadingEdgesTest::replacesEverything);
+                + "also after an error.";
+        Checks.promise(3, reads, ReadingEdgesTest::replacesEverything);
+        Checks.promise(3, reads, ReadingEdgesTest::nothingIsLeft);
         Checks.promise(3, "Returns the number of persons; -10 minus the error code if the text has an error (then only "
                 + "the buffer and the error position change).", ReadingEdgesTest::negativeCodes);
         Checks.promise(3, "Throws `IllegalArgumentException` if length is negative or greater than the number of bytes "

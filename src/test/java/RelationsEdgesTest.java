@@ -81,6 +81,47 @@ public final class RelationsEdgesTest {
         }
     }
 
+    // Generation and both parents of each person, as the chart tells them.
+    private static int[][] lineage(FamilyChart chart) {
+        int[][] told = new int[chart.count(0)][];
+        for (int i = 0; i < told.length; i++) {
+            int union = chart.person(i, 2);
+            boolean none = union == FamilyChart.NONE;
+            told[i] = new int[] {chart.person(i, 1), none ? -1 : chart.union(union, 0), none ? -1 : chart.union(union, 1)};
+        }
+        return told;
+    }
+
+    // The recursion in the document's words.
+    private static long kinship(int[][] lineage, int one, int other) {
+        boolean turned = lineage[one][0] > lineage[other][0] || lineage[one][0] == lineage[other][0] && one > other;
+        if (turned) {
+            return kinship(lineage, other, one);
+        }
+        int first = lineage[other][1];
+        int second = lineage[other][2];
+        if (one == other) {
+            return first < 0 ? SELF : SELF + kinship(lineage, first, second) / 2;
+        }
+        return first < 0 ? 0 : (kinship(lineage, one, first) + kinship(lineage, one, second)) / 2;
+    }
+
+    // All pairs, also of 16 persons whose numbers do not follow their generations.
+    private static void allPairs() {
+        String mixed = Texts.persons(16) + "union a p 1 o;union a o 1 n m;union n p 1 l;union m l 1 k;union k a 1 j i;"
+                + "union i j 1 h;union h o 1 g f;union g b 1 e;union e f 1 d;union d c 1;";
+        String[] texts = {mixed, Texts.ladder(), Texts.ladderUpwards(), Texts.zigzag(), Texts.widest(), Texts.line()};
+        for (String text : texts) {
+            int[][] lineage = lineage(Checks.chartOf(text));
+            for (int one = 0; one < lineage.length; one++) {
+                FamilyChart chart = Checks.chartOf(text);
+                for (int other = 0; other < lineage.length; other++) {
+                    due(one + " with " + other + " of " + text, chart.kinship(one, other), kinship(lineage, one, other));
+                }
+            }
+        }
+    }
+
     private static void kinshipFollows() {
         FamilyChart chart = Checks.chartOf(Texts.FAMILY);
         due("siblings", chart.kinship(2, 3), SELF / 2);
@@ -128,6 +169,7 @@ public final class RelationsEdgesTest {
                 + "other, for both parents of the other one; the other one is the one with the greater generation, on "
                 + "a tie the one with the greater number, and it is 0 if that one has no parents.";
         Checks.sentence(two, RelationsEdgesTest::ofTwoPersons);
+        Checks.sentence(two, RelationsEdgesTest::allPairs);
         Checks.sentence(two, RelationsEdgesTest::kinshipFollows);
         Checks.sentence("The distance of two persons is the least number of steps from one to the other, where a step "
                 + "leads from a child to a parent or back.", RelationsEdgesTest::leastSteps);
